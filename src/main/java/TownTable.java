@@ -591,7 +591,7 @@ public final class TownTable {
     }
 
     private void passFuture() {
-        mover.passHours(plan, future, 1);
+        mover.passHour(plan, future, plan.isDull(future.hour));
     }
 
     private void addMeetings() {
@@ -927,8 +927,8 @@ public final class TownTable {
             return kind == SIGN && bytes[place] == sign;
         }
 
-        char sign() {
-            return kind == SIGN ? bytes[place] : ' ';
+        int sign() {
+            return kind == SIGN ? bytes[place] : NONE;
         }
 
         boolean isWord(String word) {
@@ -1130,7 +1130,6 @@ public final class TownTable {
         private int waits;
         private int depth;
         private int nots;
-        private boolean beginsExpr;
         private boolean beginsNot;
         private boolean partIsDue;
 
@@ -1140,7 +1139,7 @@ public final class TownTable {
             }
             waits = 0;
             depth = 0;
-            beginPart(true, true);
+            beginPart(true);
             tape.advance();
             int fault = FINE;
             for (int i = 0; i < MOST_BYTES && fault == FINE && !isEnd(tape); i++) {
@@ -1159,9 +1158,8 @@ public final class TownTable {
             return !partIsDue && depth == 0 && tape.isSign(';');
         }
 
-        private void beginPart(boolean ofExpr, boolean ofNot) {
+        private void beginPart(boolean ofNot) {
             partIsDue = true;
-            beginsExpr = ofExpr;
             beginsNot = ofNot;
             nots = 0;
         }
@@ -1171,13 +1169,13 @@ public final class TownTable {
             if (!opens && tape.kind != NUMBER && tape.kind != WORD) {
                 return CANNOT_STAND;
             }
-            if (beginsExpr && depth >= MOST_NESTED) {
+            if (depth >= MOST_NESTED) {
                 return TOO_MUCH;
             }
             if (opens) {
                 push(OPEN);
                 depth++;
-                beginPart(true, true);
+                beginPart(true);
                 return FINE;
             }
             return tape.kind == NUMBER ? readNumber(tape, rule) : readWord(tape, rule, ofHurts);
@@ -1199,7 +1197,6 @@ public final class TownTable {
                 }
                 push(NOT);
                 nots++;
-                beginsExpr = false;
                 return FINE;
             }
             int value = valueOf(tape, ofHurts);
@@ -1248,7 +1245,7 @@ public final class TownTable {
                 return CANNOT_STAND;
             }
             push(operator);
-            beginPart(false, rank <= rankOf(AND));
+            beginPart(rank <= rankOf(AND));
             return FINE;
         }
 
@@ -1373,7 +1370,11 @@ public final class TownTable {
         }
 
         int othersWith(int figure) {
-            return Integer.bitCount(figuresAt(cell[figure])) - 1;
+            int others = -1;
+            for (int other = 0; other < figures; other++) {
+                others += cell[other] == cell[figure] ? 1 : 0;
+            }
+            return others;
         }
 
         int aloneBits() {

@@ -112,7 +112,8 @@ public final class FaceTest {
         while (m.find()) {
             imports.add(m.group(1));
         }
-        fine("imports are " + imports, Set.of("java.util.Arrays", "java.util.NoSuchElementException").containsAll(imports));
+        fine("imports are " + imports,
+                Set.of("java.util.Arrays", "java.util.NoSuchElementException").containsAll(imports));
         for (String word : new String[] {"package", "synchronized", "assert", "finally", "try", "catch", "protected",
             "float", "double", "native", "volatile", "transient", "var", "Object", "Random", "Thread", "null",
             "instanceof", "hashCode", "equals", "toString"}) {

@@ -268,6 +268,15 @@ public final class OracleTest {
         }
     }
 
+    private void everyGame() {
+        for (int f = 0; f < oracle.count(0); f++) {
+            for (int other = 0; other < oracle.count(0); other++) {
+                both("game", f, other, 0);
+                both("game", f, other, 1);
+            }
+        }
+    }
+
     private static void texts(int seeds) {
         for (int seed = 0; seed < seeds; seed++) {
             OracleTest t = new OracleTest(seed);
@@ -290,7 +299,10 @@ public final class OracleTest {
             t.calls(120, ACTS, ASKS);
             t.calls(50, ACTS, ACTS);
             t.everyState();
+            t.everyGame();
+            t.tell(t.text(5));
             t.calls(60, ASKS, ASKS);
+            t.calls(60, ACTS, ASKS);
         }
     }
 

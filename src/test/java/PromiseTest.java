@@ -111,6 +111,30 @@ public final class PromiseTest {
         is("not dull without", x.count(6), 0);
         is("hurts without", x.stop(0, 9), 1);
         is("sore by one", x.then(0, 9, 1), 9);
+        x.hours(3);
+        is("a town again", Check.town(x, "figure 0 2;figure 0 3;"), 0);
+        figures("nobody is held", x, 3, 0, 0);
+        figures("nobody is sore", x, 2, 0, 0);
+        figures("from the first hour on", x, 4, 2, 3);
+        nothingIsLeftBehind();
+    }
+
+    private static void nothingIsLeftBehind() {
+        TownTable x = Check.table("figure 0 0;figure 1 0;figure 2 0;figure 7 0;seat 3;seat 4;seat 5;seat 6;");
+        seating("four", x, 4, 6, 2, 0, 1, 3);
+        is("fewer figures", Check.town(x, "figure 0 0;figure 1 0;seat 0;seat 3;seat 2;"), 0);
+        seating("two", x, 2, 1, 0, 2);
+        is("a rule that turns", Check.town(x, "goes not 1;figure 0 2;"), 0);
+        is("stays", x.then(0, 1, 0), 0);
+        is("a rule that doesn't", Check.town(x, "goes 1;figure 0 2;"), 0);
+        is("goes", x.then(0, 1, 0), 1);
+        is("a rule that breaks off", Check.town(x, "goes not not (not (1"), 1);
+        is("a rule behind it", Check.town(x, "goes 1;figure 0 2;"), 0);
+        is("goes", x.then(0, 1, 0), 1);
+        is("light", Check.town(x, "light 1 2 3;dull 9;"), 0);
+        is("no light", Check.town(x, ""), 0);
+        is("five", x.count(5), 5);
+        is("not dull", x.count(6), 0);
     }
 
     private static void p04Fault() {
@@ -142,7 +166,8 @@ public final class PromiseTest {
         is("corners don't hang together", Check.table("table 3 3;wall 1;wall 3;wall 5;wall 7;").count(9), 5);
         is("no parts", Check.table("table 2 2;wall 0;wall 1;wall 2;wall 3;").count(9), 0);
         is("rows don't hang together", Check.table("table 3 2;wall 1;wall 4;").count(9), 2);
-        is("a row's end isn't beside the next one", Check.table("table 3 3;wall 1;wall 4;wall 5;wall 6;wall 7;").count(9), 3);
+        is("a row's end isn't beside the next one",
+                Check.table("table 3 3;wall 1;wall 4;wall 5;wall 6;wall 7;").count(9), 3);
         TownTable lit = Check.table("light 3 2;");
         is("dull is below 3", lit.count(6), 0);
         lit.hours(1);
@@ -308,7 +333,8 @@ public final class PromiseTest {
     }
 
     private static void hoursAtEdges() {
-        TownTable x = Check.table("table 3 3;wall 1;figure 4 1;figure 0 4;figure 2 1;figure 8 2;figure 6 3;figure 5 2;");
+        TownTable x = Check.table("table 3 3;wall 1;figure 4 1;figure 0 4;figure 2 1;figure 8 2;figure 6 3;"
+                + "figure 5 2;");
         x.hours(1);
         figures("wall, and off each side", x, 0, 4, 0, 2, 8, 6, 5);
         TownTable y = Check.table("table 3 3;figure 4 1;figure 4 2;figure 4 3;figure 4 4;figure 4 0;");
@@ -559,7 +585,7 @@ public final class PromiseTest {
         is("never", Check.table("figure 0 2;").round(), NONE);
         is("behind 1", Check.table("figure 1 2 4;goes 0<hour;").round(), 1);
         is("200", Check.table("figure 1 2 4;goes hour=0 or hour=199;").round(), 200);
-        is("201", Check.table("figure 1 4 2;goes hour=0 or hour=201;").round(), NONE);
+        is("201", Check.table("figure 1 4 0 2;goes hour=0 or hour=200;").round(), NONE);
         TownTable x = Check.table("figure 0 2 2 4 4;");
         x.hours(1);
         is("the cell of now", x.round(), 2);
@@ -661,7 +687,8 @@ public final class PromiseTest {
         is("behind two", x.toThin(2), 1);
         TownTable star = Check.table("table 6 2;figure 0 0;figure 1 0;figure 2 0;figure 0 2;");
         is("the one whom all meet", star.toThin(3), 8);
-        is("the fewest, the least", Check.table("figure 0 0;figure 0 0;figure 0 0;figure 5 0;figure 5 0;").toThin(0), 11);
+        is("the fewest, the least",
+                Check.table("figure 0 0;figure 0 0;figure 0 0;figure 5 0;figure 5 0;").toThin(0), 11);
         is("a crowd but one", Check.table("figure 0 0;figure 0 0;figure 0 0;").toThin(0), 3);
         is("all eight", Check.table("figure 0 0;".repeat(8)).toThin(0), 127);
         is("where others are is as if none were taken",
@@ -691,7 +718,8 @@ public final class PromiseTest {
         seating("one part of the table", Check.table("table 6 2;wall 8;wall 2;figure 0 0;figure 1 0;seat 0;seat 5;"),
                 1, 0, 0, NONE);
         seating("least far together", Check.table("table 6 2;figure 1 0;figure 0 0;seat 0;seat 5;"), 2, 4, 1, 0);
-        seating("as many as can, though far", Check.table("table 6 2;figure 1 0;figure 4 0;seat 1;seat 0;"), 2, 4, 0, 1);
+        seating("as many as can, though far",
+                Check.table("table 6 2;figure 1 0;figure 4 0;seat 1;seat 0;"), 2, 4, 0, 1);
         seating("the first row", Check.table("table 6 2;figure 0 0;figure 0 0;seat 1;seat 1;"), 2, 2, 0, 1);
         seating("none behind all", Check.table("table 6 2;figure 0 0;figure 0 0;seat 1;"), 1, 1, 0, NONE);
         seating("nearer ahead of the first row", Check.table("table 6 2;figure 0 0;figure 1 0;seat 2;"), 1, 1, NONE, 0);
@@ -701,7 +729,8 @@ public final class PromiseTest {
                 Check.table("table 3 3;wall 1;wall 3;wall 4;figure 8 0;figure 6 0;seat 0;seat 7;"), 1, 1, 1, NONE);
         seating("eight", Check.table("figure 0 0;".repeat(8) + "seat 1;".repeat(8)), 8, 8, 0, 1, 2, 3, 4, 5, 6, 7);
         seating("crossed", Check.table("table 6 2;figure 5 0;figure 0 0;seat 0;seat 5;"), 2, 0, 1, 0);
-        seating("as good by either: the first row", Check.table("table 6 2;figure 0 0;figure 1 0;seat 2;seat 3;"), 2, 4, 0, 1);
+        seating("as good by either: the first row",
+                Check.table("table 6 2;figure 0 0;figure 1 0;seat 2;seat 3;"), 2, 4, 0, 1);
         call("what", () -> x.seats(2), NSE);
         call("what", () -> x.seats(-1), NSE);
         x.wall(9, true);
@@ -900,6 +929,8 @@ public final class PromiseTest {
         game("table 6 2;figure 0 2;figure 1 2;", 1, 0);
         game("table 6 2;figure 0 2;figure 0 2;hurts 0;", 2, 0);
         game("table 3 2;figure 3 1;figure 0 2;", 1, 1);
+        game("table 4 2;figure 3 4;figure 2 2;hurts 2;", 1, 10);
+        game("table 4 2;figure 2 2;figure 3 4;hurts 2;", 1, 1);
         game("table 4 2;figure 3 4;figure 2 2;", 2, 1);
         game("table 3 2;figure 1 3;figure 3 2;hurts 0;", 3, 0);
         game("table 3 2;figure 1 3;figure 1 0 2;", 1, 11);
@@ -933,7 +964,8 @@ public final class PromiseTest {
         is("no hours", x.years(7, 0, 0), 0);
         is("sore", x.years(7, 0, 1), 0);
         is("cells", x.years(7, 0, 2), 2);
-        is("both at one cell always", Check.table("figure 0 0;figure 0 0;goes 0;").years(seedFor(3, 2, 0, 2, 0), 1, 0), 1);
+        TownTable pair = Check.table("figure 0 0;figure 0 0;goes 0;");
+        is("both at one cell", pair.years(seedFor(3, 2, 0, 2, 0), 1, 0), 1);
         int hold = seedFor(0, 3, 1, 4, 3);
         is("held for three", x.years(hold, 1, 1), 1);
         is("held for none", x.years(seedFor(0, 3, 1, 4, 0), 1, 1), 0);
@@ -1145,6 +1177,20 @@ public final class PromiseTest {
         x.image();
         yes("in place of another", x.restore());
         is("acts of the other", x.count(12), 0);
+        TownTable y = Check.table(TOWN);
+        y.note(0, 1, 1);
+        y.note(1, 1, 2);
+        y.image();
+        y.forget();
+        y.note(2, 3, 4);
+        y.note(2, 3, 4);
+        is("not so", y.ahead(2), 0);
+        y.restore();
+        is("so, as it was noted", y.ahead(2), 1);
+        y.note(1, 1, 3);
+        is("not so", y.ahead(2), 0);
+        y.restore();
+        is("so again", y.ahead(2), 1);
     }
 
     private static void p37Restore() {

@@ -57,6 +57,20 @@ public final class TextTest {
         faultAt(1, "@;");
         faultAt(1, "@5;");
         faultAt(1, "@wallx 0;");
+        faultAt(1, "@wallz 0;");
+        faultAt(1, "@awall 0;");
+        faultAt(1, "@xall 0;");
+        faultAt(1, "@xable 2 2;");
+        faultAt(1, "@xigure 0 0;");
+        faultAt(1, "@xeat 0;");
+        faultAt(1, "@xight 0;");
+        faultAt(1, "@xull 0;");
+        faultAt(1, "@xoes 0;");
+        faultAt(1, "@xurts 0;");
+        faultAt(1, "goes 1 @xnd 1;");
+        faultAt(1, "goes 1 @xr 1;");
+        faultAt(3, "goes @xot 1;");
+        faultAt(3, "goes @xore;");
         faultAt(1, "@walls;");
         faultAt(1, "@and;");
         faultAt(1, "wall 0@");
@@ -69,6 +83,22 @@ public final class TextTest {
         faultAt(1, "wall 0 @1;");
         faultAt(1, "seat 0 @1;");
         faultAt(1, "wall 0;@;");
+    }
+
+    /** A text ends at its n bytes, whatever else the tape has behind them. */
+    private static void ends() {
+        TownTable x = new TownTable();
+        Check.tape(x, "wall 12;");
+        Check.is("wall 1", x.town(6), 1);
+        Check.is("its length", x.fault(), 6);
+        Check.tape(x, "wall 12;");
+        Check.is("wal", x.town(3), 1);
+        Check.is("its word", x.fault(), 0);
+        Check.tape(x, "wall 1;x");
+        Check.is("wall 1;", x.town(7), 0);
+        Check.tape(x, "wall 1 ;");
+        Check.is("wall 1 and a blank", x.town(7), 1);
+        Check.is("its length", x.fault(), 7);
     }
 
     private static void cells() {
@@ -305,6 +335,7 @@ public final class TextTest {
     public static void main(String[] args) {
         tables();
         tokens();
+        ends();
         cells();
         rows();
         expressions();
