@@ -1237,6 +1237,51 @@ public final class PromiseTest {
         is("the fault stays", fault.fault(), 0);
     }
 
+    /** Eight of all that there are eight of, in the last cell of the largest table. */
+    private static void eightOfAll() {
+        TownTable x = Check.table("table 6 6;" + "figure 35 1 4 1 4 2 3 2 3;".repeat(8) + "seat 35;".repeat(8)
+                + "light 9 8 7 6 5 4 3 2;");
+        for (int i = 0; i < 8; i++) {
+            is("stopped", x.stop(i, 9), i + 1);
+            is("noted", x.note(i, 35, 9), i + 1);
+        }
+        figures("others", x, 6, 7, 7, 7, 7, 7, 7, 7, 7);
+        is("figures", x.cell(35, 1), 255);
+        is("seats", x.cell(35, 2), 255);
+        is("seen", x.cell(5, 3), 255);
+        is("held", x.count(11), 255);
+        is("sore of all", x.years(0, 0, 1), 0);
+        seating("all", x, 8, 0, 0, 1, 2, 3, 4, 5, 6, 7);
+        is("to thin", x.toThin(60), 127);
+        is("busiest", x.later(7, 0), 35);
+        is("sorest", x.later(7, 1), 0);
+        is("alone", x.later(7, 2), 0);
+        is("stuck", x.later(7, 3), 255);
+        is("off the table in the dull hour", x.later(9, 3), 255);
+        is("then goes", x.later(10, 3), 0);
+        is("crowd", x.crowd(100, 0), 8);
+        is("behind all", x.then(7, 7, 1), 7);
+        is("those that go off the table in the dull hour", x.ahead(0), 24);
+        is("the first", x.ahead(1), 5);
+        x.forget();
+        is("guesses", x.ahead(0), 56);
+        is("the first", x.ahead(1), 1);
+        is("who", x.look(0), 0);
+        is("held by all leads", x.look(1), 1);
+        is("clouds", x.clouds(7, 35, 5, 0), 100000);
+        is("game", x.game(6, 7, 0) > 0 ? 1 : 0, 1);
+        is("round", x.round(), 1);
+        is("hours", x.hours(8), 8);
+        is("sore of all", x.count(10), 56);
+        x.image();
+        for (int i = 0; i < 8; i++) {
+            is("brushed", x.brush(i), 7);
+        }
+        x.restore();
+        is("sore of all", x.count(10), 56);
+        is("years", x.years(5, 100, 2) > 0 ? 1 : 0, 1);
+    }
+
     public static void main(String[] args) {
         p01NewObject();
         p02Feed();
@@ -1278,6 +1323,7 @@ public final class PromiseTest {
         p35Gone();
         p36Image();
         p37Restore();
+        eightOfAll();
         Check.end("PromiseTest");
     }
 }

@@ -332,6 +332,30 @@ public final class TextTest {
         gives("light*10+with+held", "72");
     }
 
+    /** As many operands and operators waiting as a text can have, and as long a rule as a tape can hold. */
+    private static void longest() {
+        String open = "0 or 1 and not not not not not not 1<1+1*(";
+        String deep = open.repeat(5) + "0 or 1 and not not not not not not 1<1+1*2" + ")".repeat(5);
+        TownTable x = Check.table("figure 0 2;hurts " + deep + "+6;");
+        x.stop(0, 1);
+        Check.is("1 is less than 1 and what is within, which is 1", x.then(0, 1, 1), 1);
+        String sum = "figure 0 2;goes 1" + "-0".repeat(341) + ";";
+        Check.is("a tape's length", sum.length(), 700);
+        TownTable full = Check.table(sum);
+        Check.is("goes", full.then(0, 5, 0), 4);
+        TownTable tests = Check.table("figure 0 2;goes 1" + "<1 or 0".repeat(97) + ";");
+        Check.is("goes, as 0 is less than 1", tests.then(0, 5, 0), 4);
+        fault("goes 1" + "+1".repeat(347), 1, 700);
+        fault("goes " + "(".repeat(695), 2, 11);
+        fault("wall 0" + "0".repeat(694), 2, 5);
+        fault("a".repeat(700), 1, 0);
+        fault(";".repeat(700), 1, 0);
+        TownTable walls = Check.table("wall 0;wall 1;wall 2;wall 3;wall 4;wall 5;wall 6;wall 7;wall 8;wall 9;wall 10;"
+                + "wall 11;wall 12;wall 13;wall 14;wall 15;wall 16;wall 17;wall 18;wall 19;");
+        Check.is("walls all over", walls.count(8), 20);
+        Check.is("no parts", walls.count(9), 0);
+    }
+
     public static void main(String[] args) {
         tables();
         tokens();
@@ -344,6 +368,7 @@ public final class TextTest {
         numbers();
         tests();
         valuesOfHurts();
+        longest();
         Check.end("TextTest");
     }
 }
