@@ -15,6 +15,7 @@ public final class TownTable {
     private static final int MOST_ACTS = 40;
     private static final int MOST_NOTES = 8;
     private static final int MOST_DIGITS = 4;
+    private static final int MOST_NUMBER = 9999;
     private static final int MOST_NESTED = 6;
     private static final int MOST_NOTS = 6;
     private static final int MOST_SORE = 99;
@@ -901,8 +902,7 @@ public final class TownTable {
             kind = NUMBER;
             number = 0;
             while (end < length && isDigit(bytes[end])) {
-                // Kept low, so that a long row of digits can't wrap round to a number that there is.
-                number = Math.min(100000, number * 10 + (bytes[end] - '0'));
+                number = number * 10 + (bytes[end] - '0');
                 end++;
             }
         }
@@ -915,12 +915,16 @@ public final class TownTable {
             return c >= '0' && c <= '9';
         }
 
-        boolean hasManyDigits() {
-            return end - place > MOST_DIGITS;
-        }
-
-        boolean isNumber(int most) {
-            return kind == NUMBER && !hasManyDigits() && number <= most;
+        // Its digits are counted ahead of all else that is asked of a NUMBER: of one TOKEN the least FAULT is told,
+        // and a longer row may have wrapped round to a number that there is.
+        int numberFault(int least, int most) {
+            if (kind != NUMBER) {
+                return CANNOT_STAND;
+            }
+            if (end - place > MOST_DIGITS) {
+                return TOO_MUCH;
+            }
+            return number < least || number > most ? TOO_MUCH : FINE;
         }
 
         boolean isSign(char sign) {
@@ -964,26 +968,19 @@ public final class TownTable {
 
         private int readTable(Tape tape, Plan plan) {
             tape.advance();
-            int fault = sideFault(tape);
+            int fault = tape.numberFault(2, 6);
             if (fault != FINE) {
                 return fault;
             }
             plan.width = tape.number;
             tape.advance();
-            fault = sideFault(tape);
+            fault = tape.numberFault(2, 6);
             if (fault != FINE) {
                 return fault;
             }
             plan.height = tape.number;
             tape.advance();
             return readStop(tape);
-        }
-
-        private static int sideFault(Tape tape) {
-            if (tape.kind != NUMBER) {
-                return CANNOT_STAND;
-            }
-            return tape.isNumber(6) && tape.number >= 2 ? FINE : TOO_MUCH;
         }
 
         private static int readStop(Tape tape) {
@@ -1019,16 +1016,13 @@ public final class TownTable {
             return CANNOT_STAND;
         }
 
-        // A CELL that there isn't is UNKNOWN "however great", so that is asked ahead of how many digits it has.
         private static int cellFault(Tape tape, Plan plan) {
-            if (tape.kind != NUMBER) {
-                return CANNOT_STAND;
+            int fault = tape.numberFault(0, MOST_NUMBER);
+            if (fault != FINE) {
+                return fault;
             }
             if (tape.number >= plan.cells()) {
                 return UNKNOWN;
-            }
-            if (tape.hasManyDigits()) {
-                return TOO_MUCH;
             }
             return plan.isWall(tape.number) ? WALLED : FINE;
         }
@@ -1094,7 +1088,7 @@ public final class TownTable {
         private int readRow(Tape tape, int[] row, int from, int most) {
             rowSize = 0;
             for (int i = 0; i <= MOST_STEPS && tape.kind == NUMBER; i++) {
-                if (i == MOST_STEPS || !tape.isNumber(most)) {
+                if (i == MOST_STEPS || tape.numberFault(0, most) != FINE) {
                     return TOO_MUCH;
                 }
                 if (from + i < row.length) {
@@ -1111,11 +1105,9 @@ public final class TownTable {
                 return TOLD_TWICE;
             }
             tape.advance();
-            if (tape.kind != NUMBER) {
-                return CANNOT_STAND;
-            }
-            if (!tape.isNumber(9)) {
-                return TOO_MUCH;
+            int fault = tape.numberFault(0, 9);
+            if (fault != FINE) {
+                return fault;
             }
             plan.dullTold = true;
             plan.dullBelow = tape.number;
@@ -1182,8 +1174,9 @@ public final class TownTable {
         }
 
         private int readNumber(Tape tape, Rule rule) {
-            if (tape.hasManyDigits()) {
-                return TOO_MUCH;
+            int fault = tape.numberFault(0, MOST_NUMBER);
+            if (fault != FINE) {
+                return fault;
             }
             rule.add(tape.number);
             partIsDue = false;

@@ -109,14 +109,13 @@ final class Oracle {
             if (!peek().isNumber()) {
                 throw fault(1);
             }
-            java.math.BigInteger told = new java.math.BigInteger(peek().text());
-            if (told.compareTo(java.math.BigInteger.valueOf(town.width * town.height)) >= 0) {
-                throw fault(3);
-            }
             if (peek().text().length() > 4) {
                 throw fault(2);
             }
-            int cell = told.intValue();
+            int cell = Integer.parseInt(peek().text());
+            if (cell >= town.width * town.height) {
+                throw fault(3);
+            }
             if (town.walls.contains(cell) || free && (town.starts.contains(cell) || town.seats.contains(cell))) {
                 throw fault(4);
             }

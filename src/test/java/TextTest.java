@@ -105,12 +105,23 @@ public final class TextTest {
         fine("wall 19;");
         faultAt(3, "wall @20;");
         faultAt(3, "wall @9999;");
-        faultAt(3, "wall @99999;");
-        faultAt(3, "wall @4294967296;");
-        faultAt(3, "seat @18446744073709551616;");
-        faultAt(3, "figure @100000000000000000000 0;");
+        faultAt(3, "seat @9999;");
+        faultAt(3, "figure @9999 0;");
+        faultAt(3, "wall @0020;");
+        faultAt(2, "wall @00020;");
+        faultAt(2, "wall @10000;");
+        faultAt(2, "wall @99999;");
+        faultAt(2, "seat @99999;");
+        faultAt(2, "figure @99999 0;");
+        faultAt(2, "wall @4294967296;");
+        faultAt(2, "seat @18446744073709551616;");
+        faultAt(2, "figure @100000000000000000000 0;");
         faultAt(2, "wall @00000;");
+        faultAt(2, "seat @00000;");
+        faultAt(2, "figure @00000 0;");
         faultAt(2, "wall 0;wall @00000;");
+        faultAt(2, "seat 0;wall @00000;");
+        faultAt(2, "wall 0;figure @00000 0;");
         fine("wall 0000;");
         fine("table 6 6;wall 35;");
         faultAt(3, "table 6 6;wall @36;");
@@ -161,6 +172,9 @@ public final class TextTest {
         fine("dull 9;");
         faultAt(2, "dull @10;");
         faultAt(2, "dull @00003;");
+        faultAt(2, "dull @4294967296;");
+        faultAt(2, "light @4294967296;");
+        faultAt(2, "figure 0 @4294967296;");
         faultAt(1, "dull@;");
         faultAt(1, "dull 1 @2;");
         faultAt(5, "light 1;@light 2;");
@@ -173,6 +187,8 @@ public final class TextTest {
     private static void expressions() {
         fine("goes 9999;");
         faultAt(2, "goes @10000;");
+        faultAt(2, "goes @4294967296;");
+        faultAt(2, "hurts @4294967297;");
         faultAt(2, "goes 1+@00000;");
         faultAt(1, "goes@;");
         faultAt(1, "goes@");
