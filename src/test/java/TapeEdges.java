@@ -136,7 +136,8 @@ final class TapeEdges {
         String all = "table 6 6;wall 0;figure 1 2;figure 2 2;seat 3;seat 4;seat 5;light 0 1;dull 9;"
                 + "goes not 1;hurts not 0;";
         String less = "figure 1 2;seat 3;light 7;dull 7;goes 1;hurts 2;";
-        String[] aheads = {all, all + "x", "goes not not (not (1", "hurts ((((((", all + "goes", "light 1 x"};
+        String[] aheads = {all, all + "x", "goes not not (not (1", "goes not x", "hurts ((((((", all + "goes",
+            "light 1 x", "figure 0 0;figure 3 0;seat 3;"};
         for (String ahead : aheads) {
             TownTable x = new TownTable();
             for (int i = 0; i < 3; i++) {
