@@ -1170,7 +1170,7 @@ public final class TownTable {
                 beginPart(true);
                 return FINE;
             }
-            return tape.kind == NUMBER ? readNumber(tape, rule) : readWord(tape, rule, ofHurts);
+            return tape.kind == NUMBER ? readNumber(tape, rule) : readWord(tape, rule, valueOf(tape, ofHurts));
         }
 
         private int readNumber(Tape tape, Rule rule) {
@@ -1183,7 +1183,7 @@ public final class TownTable {
             return FINE;
         }
 
-        private int readWord(Tape tape, Rule rule, boolean ofHurts) {
+        private int readWord(Tape tape, Rule rule, int value) {
             if (beginsNot && tape.isWord("not")) {
                 if (nots >= MOST_NOTS) {
                     return TOO_MUCH;
@@ -1192,7 +1192,6 @@ public final class TownTable {
                 nots++;
                 return FINE;
             }
-            int value = valueOf(tape, ofHurts);
             if (value == NONE) {
                 return UNKNOWN;
             }

@@ -1,4 +1,6 @@
 import java.io.IOException;
+import java.io.PrintWriter;
+import java.io.StringWriter;
 import java.lang.reflect.Constructor;
 import java.lang.reflect.Field;
 import java.lang.reflect.Method;
@@ -7,11 +9,15 @@ import java.nio.charset.StandardCharsets;
 import java.nio.file.Files;
 import java.nio.file.Path;
 import java.util.Arrays;
+import java.util.HashMap;
+import java.util.Map;
 import java.util.Set;
 import java.util.TreeSet;
 import java.util.regex.Matcher;
 import java.util.regex.Pattern;
+import java.util.spi.ToolProvider;
 import java.util.stream.Collectors;
+import java.util.stream.Stream;
 
 /** The class's face, and those rules of LANGUAGE.md that can be seen in the class file or the source. */
 public final class FaceTest {
@@ -82,6 +88,22 @@ public final class FaceTest {
         fine("fields", fields(of) <= 22);
     }
 
+    /** The list above is the face that the document tells, and NONE is the only constant. */
+    private static void faceOfDocument() throws IOException {
+        String doc = Files.readString(Path.of("../shared/DOC.md"), StandardCharsets.UTF_8);
+        Set<String> told = new TreeSet<>();
+        Matcher m = Pattern.compile("(?m)^    public (int|boolean|void) (\\w+)\\(([^)]*)\\)(?: throws ([^;]+))?;")
+                .matcher(doc);
+        while (m.find()) {
+            String types = m.group(3).replaceAll(" \\w+(?=,|$)", "").replace(" ", "");
+            String thrown = m.group(4) == null ? "" : " " + m.group(4).replace(",", "");
+            told.add(m.group(1) + " " + m.group(2) + "(" + types + ")" + thrown);
+        }
+        fine("the document tells " + told, told.equals(new TreeSet<>(Arrays.asList(FACE))));
+        fine("the document's constant", doc.contains("public static final int NONE = -1;") && TownTable.NONE == -1);
+        fine("no other constant", doc.split("public static final", -1).length == 2);
+    }
+
     private static long fields(Class<?> of) {
         return Arrays.stream(of.getDeclaredFields()).filter(f -> !Modifier.isStatic(f.getModifiers())).count();
     }
@@ -148,6 +170,62 @@ public final class FaceTest {
         }
     }
 
+    /** Which methods a method calls, by javap's words, the library's too. */
+    private static Map<String, Set<String>> calls() throws IOException {
+        Path made = Files.createTempDirectory("face");
+        Map<String, Set<String>> calls = new HashMap<>();
+        ToolProvider javac = ToolProvider.findFirst("javac").orElseThrow();
+        javac.run(System.out, System.out, "-d", made.toString(), "src/main/java/TownTable.java");
+        Pattern head = Pattern.compile("^  .*?([\\w$]+)\\([^)]*\\).*;$");
+        Pattern call = Pattern.compile("// (?:Interface)?Method ([^:]+):");
+        try (Stream<Path> files = Files.list(made)) {
+            for (Path file : files.toList()) {
+                String of = file.getFileName().toString().replace(".class", "");
+                StringWriter out = new StringWriter();
+                PrintWriter print = new PrintWriter(out);
+                ToolProvider.findFirst("javap").orElseThrow().run(print, print, "-c", "-p", file.toString());
+                String in = "";
+                for (String line : out.toString().split("\n")) {
+                    Matcher m = head.matcher(line);
+                    if (m.find()) {
+                        in = of + "." + (m.group(1).equals(of) ? "<init>" : m.group(1));
+                        calls.putIfAbsent(in, new TreeSet<>());
+                    }
+                    m = call.matcher(line);
+                    if (m.find()) {
+                        String to = m.group(1).replace("\"", "");
+                        calls.get(in).add(to.contains(".") ? to : of + "." + to);
+                    }
+                }
+                Files.delete(file);
+            }
+        }
+        Files.delete(made);
+        return calls;
+    }
+
+    private static int depth(Map<String, Set<String>> calls, String method, int open) {
+        int most = open;
+        for (String to : calls.getOrDefault(method, Set.of())) {
+            most = Math.max(most, open > 20 ? open : depth(calls, to, open + 1));
+        }
+        return most;
+    }
+
+    /** Rule 11: calls go at most eight deep, even with the library's counted; no method comes back to itself. */
+    private static void depths() throws IOException {
+        if (ToolProvider.findFirst("javap").isEmpty()) {
+            return;
+        }
+        Map<String, Set<String>> calls = calls();
+        fine("the methods were found", calls.containsKey("TownTable.town")
+                && calls.get("TownTable.town").contains("TownTable$PlanReader.read"));
+        for (String method : calls.keySet()) {
+            int deep = depth(calls, method, 1);
+            fine(method + " goes " + deep + " deep", deep <= 8);
+        }
+    }
+
     /** Whatever is asked of it, a table makes nothing new: its room stays what it was when it was made. */
     private static void room() {
         com.sun.management.ThreadMXBean threads =
@@ -208,7 +286,9 @@ public final class FaceTest {
 
     public static void main(String[] args) throws IOException {
         face();
+        faceOfDocument();
         source();
+        depths();
         room();
         Check.end("FaceTest");
     }
